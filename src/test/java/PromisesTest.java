@@ -39,6 +39,7 @@ public final class PromisesTest {
         changedInEveryPart();
         digest();
         orderAndLimits();
+        fullObjects();
         refusedCallsChangeNothing();
         questionsChangeNothing();
         CHECKS.end();
@@ -205,6 +206,7 @@ public final class PromisesTest {
         due("size(8)", x.size(8), 6);
         for (int i = 0; i < 6; i++) {
             due("value(8, " + i + ")", x.value(8, i), bytes[i]);
+            due("valueKind(8, " + i + ")", x.valueKind(8, i), 3);
         }
     }
 
@@ -434,6 +436,13 @@ public final class PromisesTest {
         z.append(1, 2);
         z.setNumber(2, 2);
         due("sweep(), a byte is no link", z.sweep(), 1);
+        for (int o = 2; o <= 8; o++) {
+            z.setLink(o, 1);
+        }
+        due("sweep() of all but object 1", z.sweep(), 7);
+        for (int o = 2; o <= 8; o++) {
+            due("kind(" + o + ")", z.kind(o), 0);
+        }
     }
 
     private static void kind() {
@@ -574,6 +583,11 @@ public final class PromisesTest {
         due("links(1)", y.links(1), 5);
         y.setNumber(1, 1);
         due("links(1) without the link to itself", y.links(1), 4);
+        for (int from = 1; from <= 8; from++) {
+            ObjectFile z = new ObjectFile();
+            z.setLink(from, 6);
+            due("links(6), one from " + from, z.links(6), 1);
+        }
     }
 
     private static void save() {
@@ -679,6 +693,9 @@ public final class PromisesTest {
         CHECKS.part("promise 21");
         for (int way = 0; way <= 2; way++) {
             ObjectFile x = withEveryKind();
+            for (int o = 6; o <= 8; o++) {
+                x.setNumber(o, o);
+            }
             due("breakOff(" + way + ", 3) without revisions", x.breakOff(way, 3), 0);
             for (int o = 1; o <= 8; o++) {
                 due("kind(" + o + ")", x.kind(o), 0);
@@ -789,6 +806,55 @@ public final class PromisesTest {
         x.append(8, 200);
         x.pop(8);
         due("changed(), the byte popped again", x.changed(), 0);
+        ObjectFile y = new ObjectFile();
+        for (int o = 1; o <= 8; o++) {
+            y.begin(o, 3);
+            due("changed() of object " + o + " without revisions", y.changed(), 1);
+            y.remove(o);
+        }
+        y.save(0);
+        for (int o = 1; o <= 8; o++) {
+            y.begin(o, 3);
+            due("changed() of object " + o, y.changed(), 1);
+            y.remove(o);
+            due("changed() of object " + o + ", removed again", y.changed(), 0);
+        }
+    }
+
+    /** Every object with as much as it can hold: none takes room from another. */
+    private static void fullObjects() {
+        CHECKS.part("terms, limits");
+        for (int kind = 2; kind <= 4; kind++) {
+            int room = new int[] {6, 4, 3}[kind - 2];
+            ObjectFile x = new ObjectFile();
+            for (int o = 8; o >= 1; o--) {
+                x.begin(o, kind);
+                for (int n = 1; n <= room; n++) {
+                    due("filling " + o, fill(x, o, kind, 10 * o + n), n);
+                }
+                due("filling " + o + " above its room", fill(x, o, kind, 10 * o), FULL);
+            }
+            x.save(2);
+            x.breakOff(0, 0);
+            for (int o = 1; o <= 8; o++) {
+                due("kind(" + o + ")", x.kind(o), kind);
+                due("size(" + o + ")", x.size(o), room);
+                for (int n = 1; n <= room; n++) {
+                    due("value(" + o + ", " + (n - 1) + ")", x.value(o, n - 1), 10 * o + n);
+                    due("valueKind(" + o + ", " + (n - 1) + ")", x.valueKind(o, n - 1), kind == 2 ? 3 : 0);
+                    due("key(" + o + ", " + (n - 1) + ")", x.key(o, n - 1), kind == 4 ? 28 + n : NONE);
+                }
+            }
+        }
+    }
+
+    /** Adds the number to a text, a list or a table; the table's keys are 28 .. 31. */
+    private static int fill(ObjectFile x, int o, int kind, int n) {
+        switch (kind) {
+            case 2: return x.append(o, n);
+            case 3: return x.push(o, 0, n);
+            default: return x.put(code(o, 28 + n % 10, 0), n);
+        }
     }
 
     private static void digest() {
