@@ -2,10 +2,24 @@
 final class Checks {
     private int made = 0;
     private int wrong = 0;
+    private int sentences = 0;
     private String part = "";
 
     void part(String name) {
         part = name;
+    }
+
+    /** The test of one sentence of the document: a call that throws breaks that sentence alone. */
+    void sentence(String words, Runnable test) {
+        part(words);
+        sentences++;
+        int before = made;
+        try {
+            test.run();
+        } catch (RuntimeException e) {
+            holds("that no call throws (" + e + ")", false);
+        }
+        holds("that something is tested", made > before);
     }
 
     void due(String call, long got, long want) {
@@ -13,6 +27,14 @@ final class Checks {
         if (got != want) {
             wrong++;
             System.out.println(part + ": " + call + " answered " + got + ", due is " + want);
+        }
+    }
+
+    void same(String what, String got, String want) {
+        made++;
+        if (!got.equals(want)) {
+            wrong++;
+            System.out.println(part + ": " + what + " is\n" + got + "due is\n" + want);
         }
     }
 
@@ -29,7 +51,8 @@ final class Checks {
     }
 
     void end() {
-        System.out.println(made + " checks, " + wrong + " wrong");
+        String of = sentences == 0 ? "" : " of " + sentences + " sentences";
+        System.out.println(made + " checks" + of + ", " + wrong + " wrong");
         if (wrong != 0) {
             System.exit(1);
         }

@@ -1,11 +1,11 @@
 /** For each promise of the document: ordinary inputs, the edges it names, wrong inputs. */
 public final class PromisesTest {
-    private static final int BAD = -1;
-    private static final int NONE = -2;
-    private static final int FULL = -3;
-    private static final int MIN = Integer.MIN_VALUE;
-    private static final int MAX = Integer.MAX_VALUE;
-    private static final int[] NOT_GOOD = {0, 9, -1, 10, 64, MIN, MAX};
+    private static final int BAD = Samples.BAD;
+    private static final int NONE = Samples.NONE;
+    private static final int FULL = Samples.FULL;
+    private static final int MIN = Samples.MIN;
+    private static final int MAX = Samples.MAX;
+    private static final int[] NOT_GOOD = Samples.NOT_GOOD;
     private static final Checks CHECKS = new Checks();
 
     public static void main(String[] args) {
@@ -50,7 +50,7 @@ public final class PromisesTest {
     }
 
     private static int code(int o, int key, int link) {
-        return 64 * o + 2 * key + link;
+        return Samples.code(o, key, link);
     }
 
     private static ObjectFile withText(int o, int... bytes) {
@@ -60,42 +60,6 @@ public final class PromisesTest {
             x.append(o, b);
         }
         return x;
-    }
-
-    /** One object of each kind: a number, a text, a list, a table, a link; 6 .. 8 are absent. */
-    private static ObjectFile withEveryKind() {
-        ObjectFile x = new ObjectFile();
-        x.setNumber(1, -7);
-        x.begin(2, 2);
-        x.append(2, 0);
-        x.append(2, 255);
-        x.begin(3, 3);
-        x.push(3, 0, MIN);
-        x.push(3, 1, 63);
-        x.push(3, 2, 8);
-        x.begin(4, 4);
-        x.put(code(4, 31, 0), MAX);
-        x.put(code(4, 0, 1), 3);
-        x.setLink(5, 4);
-        return x;
-    }
-
-    /** All that the questions about objects tell, as one text. */
-    private static String objectsOf(ObjectFile x) {
-        StringBuilder s = new StringBuilder();
-        for (int o = 1; o <= 8; o++) {
-            s.append(o).append(':').append(x.kind(o)).append('/').append(x.size(o));
-            for (int i = 0; i < x.size(o); i++) {
-                s.append(' ').append(x.valueKind(o, i)).append(',').append(x.value(o, i))
-                    .append(',').append(x.key(o, i));
-            }
-            s.append('\n');
-        }
-        return s.toString();
-    }
-
-    private static String stateOf(ObjectFile x) {
-        return objectsOf(x) + x.revisions() + ' ' + x.changed() + ' ' + x.digest();
     }
 
     private static void newObject() {
@@ -122,7 +86,7 @@ public final class PromisesTest {
 
     private static void setNumber() {
         CHECKS.part("promise 2");
-        ObjectFile x = withEveryKind();
+        ObjectFile x = Samples.everyKind();
         for (int o : NOT_GOOD) {
             due("setNumber(" + o + ", 1)", x.setNumber(o, 1), BAD);
         }
@@ -141,7 +105,7 @@ public final class PromisesTest {
 
     private static void setLink() {
         CHECKS.part("promise 3");
-        ObjectFile x = withEveryKind();
+        ObjectFile x = Samples.everyKind();
         for (int o : NOT_GOOD) {
             due("setLink(" + o + ", 1)", x.setLink(o, 1), BAD);
             due("setLink(1, " + o + ")", x.setLink(1, o), BAD);
@@ -162,7 +126,7 @@ public final class PromisesTest {
     private static void begin() {
         CHECKS.part("promise 4");
         for (int kind = 2; kind <= 4; kind++) {
-            ObjectFile x = withEveryKind();
+            ObjectFile x = Samples.everyKind();
             for (int o : NOT_GOOD) {
                 due("begin(" + o + ", " + kind + ")", x.begin(o, kind), BAD);
             }
@@ -174,7 +138,7 @@ public final class PromisesTest {
                 due("valueKind(" + o + ", 0)", x.valueKind(o, 0), NONE);
             }
         }
-        ObjectFile x = withEveryKind();
+        ObjectFile x = Samples.everyKind();
         for (int kind : new int[] {0, 1, 5, 6, -1, MIN, MAX}) {
             due("begin(1, " + kind + ")", x.begin(1, kind), BAD);
             due("begin(6, " + kind + ")", x.begin(6, kind), BAD);
@@ -185,7 +149,7 @@ public final class PromisesTest {
 
     private static void append() {
         CHECKS.part("promise 5");
-        ObjectFile x = withEveryKind();
+        ObjectFile x = Samples.everyKind();
         for (int o : NOT_GOOD) {
             due("append(" + o + ", 1)", x.append(o, 1), BAD);
         }
@@ -212,7 +176,7 @@ public final class PromisesTest {
 
     private static void push() {
         CHECKS.part("promise 6");
-        ObjectFile x = withEveryKind();
+        ObjectFile x = Samples.everyKind();
         for (int o : new int[] {1, 2, 4, 5, 6}) {
             due("push(" + o + ", 0, 1)", x.push(o, 0, 1), NONE);
         }
@@ -240,7 +204,7 @@ public final class PromisesTest {
 
     private static void pushWrongItems() {
         CHECKS.part("promise 6");
-        ObjectFile x = withEveryKind();
+        ObjectFile x = Samples.everyKind();
         for (int o : NOT_GOOD) {
             due("push(" + o + ", 0, 1)", x.push(o, 0, 1), BAD);
             due("push(3, 2, " + o + ")", x.push(3, 2, o), BAD);
@@ -320,7 +284,7 @@ public final class PromisesTest {
         dueEntry(x, 8, 0, 31, 2, 8);
         due("put(64, 0)", x.put(64, 0), 1);
         dueEntry(x, 1, 0, 0, 0, 0);
-        ObjectFile y = withEveryKind();
+        ObjectFile y = Samples.everyKind();
         for (int o : new int[] {1, 2, 3, 5, 6}) {
             due("put to object " + o, y.put(code(o, 3, 0), 1), NONE);
         }
@@ -328,7 +292,7 @@ public final class PromisesTest {
 
     private static void pop() {
         CHECKS.part("promise 8");
-        ObjectFile x = withEveryKind();
+        ObjectFile x = Samples.everyKind();
         for (int o : NOT_GOOD) {
             due("pop(" + o + ")", x.pop(o), BAD);
         }
@@ -362,7 +326,7 @@ public final class PromisesTest {
 
     private static void remove() {
         CHECKS.part("promise 9");
-        ObjectFile x = withEveryKind();
+        ObjectFile x = Samples.everyKind();
         for (int o : NOT_GOOD) {
             due("remove(" + o + ")", x.remove(o), BAD);
         }
@@ -381,18 +345,18 @@ public final class PromisesTest {
 
     private static void sweep() {
         CHECKS.part("promise 10");
-        ObjectFile x = withEveryKind();
+        ObjectFile x = Samples.everyKind();
         due("sweep() from a number", x.sweep(), 4);
         due("kind(1)", x.kind(1), 1);
         due("sweep() again", x.sweep(), 0);
-        ObjectFile y = withEveryKind();
+        ObjectFile y = Samples.everyKind();
         y.remove(1);
         due("sweep() with object 1 absent", y.sweep(), 4);
         for (int o = 1; o <= 8; o++) {
             due("kind(" + o + ")", y.kind(o), 0);
         }
         due("sweep() with nothing", y.sweep(), 0);
-        ObjectFile z = withEveryKind();
+        ObjectFile z = Samples.everyKind();
         z.setNumber(7, 1);
         z.setNumber(8, 2);
         z.setLink(1, 5);
@@ -447,7 +411,7 @@ public final class PromisesTest {
 
     private static void kind() {
         CHECKS.part("promise 11");
-        ObjectFile x = withEveryKind();
+        ObjectFile x = Samples.everyKind();
         for (int o = 1; o <= 8; o++) {
             due("kind(" + o + ")", x.kind(o), o <= 5 ? o : 0);
         }
@@ -458,7 +422,7 @@ public final class PromisesTest {
 
     private static void size() {
         CHECKS.part("promise 12");
-        ObjectFile x = withEveryKind();
+        ObjectFile x = Samples.everyKind();
         int[] sizes = {1, 2, 3, 2, 1, 0, 0, 0};
         for (int o = 1; o <= 8; o++) {
             due("size(" + o + ")", x.size(o), sizes[o - 1]);
@@ -470,7 +434,7 @@ public final class PromisesTest {
 
     private static void value() {
         CHECKS.part("promise 13");
-        ObjectFile x = withEveryKind();
+        ObjectFile x = Samples.everyKind();
         int[][] values = {{-7}, {0, 255}, {MIN, 63, 8}, {3, MAX}, {4}, {}, {}, {}};
         for (int o = 1; o <= 8; o++) {
             int[] of = values[o - 1];
@@ -489,7 +453,7 @@ public final class PromisesTest {
 
     private static void valueKind() {
         CHECKS.part("promise 14");
-        ObjectFile x = withEveryKind();
+        ObjectFile x = Samples.everyKind();
         int[][] kinds = {{0}, {3, 3}, {0, 1, 2}, {2, 0}, {2}, {}, {}, {}};
         for (int o = 1; o <= 8; o++) {
             int[] of = kinds[o - 1];
@@ -508,7 +472,7 @@ public final class PromisesTest {
 
     private static void key() {
         CHECKS.part("promise 15");
-        ObjectFile x = withEveryKind();
+        ObjectFile x = Samples.everyKind();
         due("key(4, 0)", x.key(4, 0), 0);
         due("key(4, 1)", x.key(4, 1), 31);
         for (int i : new int[] {2, 3, 6, -1, -20, 160, MIN, MAX}) {
@@ -525,7 +489,7 @@ public final class PromisesTest {
 
     private static void resolve() {
         CHECKS.part("promise 16");
-        ObjectFile x = withEveryKind();
+        ObjectFile x = Samples.everyKind();
         for (int o = 1; o <= 4; o++) {
             due("resolve(" + o + ")", x.resolve(o), o);
         }
@@ -558,7 +522,7 @@ public final class PromisesTest {
 
     private static void links() {
         CHECKS.part("promise 17");
-        ObjectFile x = withEveryKind();
+        ObjectFile x = Samples.everyKind();
         int[] counts = {0, 0, 1, 1, 0, 0, 0, 1};
         for (int o = 1; o <= 8; o++) {
             due("links(" + o + ")", x.links(o), counts[o - 1]);
@@ -627,10 +591,10 @@ public final class PromisesTest {
     private static void saveKeepsEverything() {
         CHECKS.part("promise 18");
         for (int way = 0; way <= 2; way++) {
-            ObjectFile x = withEveryKind();
-            String before = objectsOf(x);
+            ObjectFile x = Samples.everyKind();
+            String before = Samples.objectsOf(x);
             x.save(way);
-            CHECKS.holds("save(" + way + ") leaves the objects", objectsOf(x).equals(before));
+            CHECKS.holds("save(" + way + ") leaves the objects", Samples.objectsOf(x).equals(before));
             x.begin(4, 4);
             x.append(2, 1);
             x.push(3, 0, 1);
@@ -638,13 +602,13 @@ public final class PromisesTest {
             x.setNumber(8, 1);
             x.remove(5);
             x.open(0);
-            CHECKS.holds("open(0) after save(" + way + ") brings all back", objectsOf(x).equals(before));
+            CHECKS.holds("open(0) after save(" + way + ") brings all back", Samples.objectsOf(x).equals(before));
         }
     }
 
     private static void open() {
         CHECKS.part("promise 19");
-        ObjectFile x = withEveryKind();
+        ObjectFile x = Samples.everyKind();
         x.save(0);
         x.setNumber(8, 4);
         x.save(0);
@@ -692,7 +656,7 @@ public final class PromisesTest {
     private static void breakOff() {
         CHECKS.part("promise 21");
         for (int way = 0; way <= 2; way++) {
-            ObjectFile x = withEveryKind();
+            ObjectFile x = Samples.everyKind();
             for (int o = 6; o <= 8; o++) {
                 x.setNumber(o, o);
             }
@@ -716,14 +680,14 @@ public final class PromisesTest {
             due("value(1, 0), of the first revision", x.value(1, 0), 1);
         }
         for (int steps : new int[] {-1, 0, 1, 160, 800, MIN, MAX}) {
-            ObjectFile x = withEveryKind();
+            ObjectFile x = Samples.everyKind();
             x.save(0);
-            String saved = stateOf(x);
+            String saved = Samples.stateOf(x);
             x.setNumber(2, 6);
             due("breakOff(1, " + steps + ")", x.breakOff(1, steps), 1);
-            CHECKS.holds("breakOff(1, " + steps + ") brings the revision back", stateOf(x).equals(saved));
+            CHECKS.holds("breakOff(1, " + steps + ") brings the revision back", Samples.stateOf(x).equals(saved));
         }
-        ObjectFile x = withEveryKind();
+        ObjectFile x = Samples.everyKind();
         x.save(0);
         x.setNumber(2, 6);
         for (int way : new int[] {-1, 3, MIN, MAX}) {
@@ -767,7 +731,7 @@ public final class PromisesTest {
 
     private static void changedInEveryPart() {
         CHECKS.part("promise 22");
-        ObjectFile x = withEveryKind();
+        ObjectFile x = Samples.everyKind();
         x.save(0);
         x.setNumber(1, 0);
         due("changed(), another number", x.changed(), 1);
@@ -825,14 +789,14 @@ public final class PromisesTest {
     private static void fullObjects() {
         CHECKS.part("terms, limits");
         for (int kind = 2; kind <= 4; kind++) {
-            int room = new int[] {6, 4, 3}[kind - 2];
+            int room = Samples.room(kind);
             ObjectFile x = new ObjectFile();
             for (int o = 8; o >= 1; o--) {
                 x.begin(o, kind);
                 for (int n = 1; n <= room; n++) {
-                    due("filling " + o, fill(x, o, kind, 10 * o + n), n);
+                    due("filling " + o, Samples.fill(x, o, kind, 3 * o + n), n);
                 }
-                due("filling " + o + " above its room", fill(x, o, kind, 10 * o), FULL);
+                due("filling " + o + " above its room", Samples.fill(x, o, kind, 3 * o), FULL);
             }
             x.save(2);
             x.breakOff(0, 0);
@@ -840,20 +804,11 @@ public final class PromisesTest {
                 due("kind(" + o + ")", x.kind(o), kind);
                 due("size(" + o + ")", x.size(o), room);
                 for (int n = 1; n <= room; n++) {
-                    due("value(" + o + ", " + (n - 1) + ")", x.value(o, n - 1), 10 * o + n);
+                    due("value(" + o + ", " + (n - 1) + ")", x.value(o, n - 1), 3 * o + n);
                     due("valueKind(" + o + ", " + (n - 1) + ")", x.valueKind(o, n - 1), kind == 2 ? 3 : 0);
-                    due("key(" + o + ", " + (n - 1) + ")", x.key(o, n - 1), kind == 4 ? 28 + n : NONE);
+                    due("key(" + o + ", " + (n - 1) + ")", x.key(o, n - 1), kind == 4 ? 3 * o + n : NONE);
                 }
             }
-        }
-    }
-
-    /** Adds the number to a text, a list or a table; the table's keys are 28 .. 31. */
-    private static int fill(ObjectFile x, int o, int kind, int n) {
-        switch (kind) {
-            case 2: return x.append(o, n);
-            case 3: return x.push(o, 0, n);
-            default: return x.put(code(o, 28 + n % 10, 0), n);
         }
     }
 
@@ -899,7 +854,7 @@ public final class PromisesTest {
 
     private static void refusedCallsChangeNothing() {
         CHECKS.part("terms, refused calls");
-        ObjectFile x = withEveryKind();
+        ObjectFile x = Samples.everyKind();
         for (int n = 0; n < 5; n++) {
             x.save(0);
         }
@@ -909,7 +864,7 @@ public final class PromisesTest {
         for (int n = 0; n < 6; n++) {
             x.append(7, n);
         }
-        String before = stateOf(x);
+        String before = Samples.stateOf(x);
         int[] answers = {
             x.setNumber(0, 1), x.setNumber(9, 1), x.setLink(1, 0), x.setLink(9, 1), x.begin(1, 5),
             x.begin(9, 2), x.append(7, 256), x.append(1, 1), x.append(7, 1), x.push(3, 3, 1),
@@ -919,15 +874,15 @@ public final class PromisesTest {
         for (int n = 0; n < answers.length; n++) {
             CHECKS.holds("refusal " + n, answers[n] < 0);
         }
-        CHECKS.holds("nothing is changed", stateOf(x).equals(before));
+        CHECKS.holds("nothing is changed", Samples.stateOf(x).equals(before));
     }
 
     private static void questionsChangeNothing() {
         CHECKS.part("terms, questions");
-        ObjectFile x = withEveryKind();
+        ObjectFile x = Samples.everyKind();
         x.save(0);
         x.setNumber(6, 3);
-        String before = stateOf(x);
+        String before = Samples.stateOf(x);
         for (int o = 0; o <= 9; o++) {
             x.resolve(o);
             x.links(o);
@@ -942,6 +897,6 @@ public final class PromisesTest {
         x.revisions();
         x.changed();
         x.digest();
-        CHECKS.holds("nothing is changed", stateOf(x).equals(before));
+        CHECKS.holds("nothing is changed", Samples.stateOf(x).equals(before));
     }
 }
