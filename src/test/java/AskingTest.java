@@ -47,6 +47,16 @@ public final class AskingTest {
         }
     }
 
+    /** Object 1, a text of six times the byte. */
+    private static ObjectFile textOf(int b) {
+        ObjectFile x = new ObjectFile();
+        x.begin(1, 2);
+        for (int n = 0; n < 6; n++) {
+            x.append(1, b);
+        }
+        return x;
+    }
+
     private static void kindSentences() {
         CHECKS.sentence("promise 11: o is not good: BAD", () -> notGoodAnswers((x, o) -> x.kind(o), BAD));
         CHECKS.sentence("promise 11: the kind; 0 if it is absent",
@@ -178,6 +188,14 @@ public final class AskingTest {
         CHECKS.sentence("promise 14: there is none: NONE", () -> noneOutside((x, o, i) -> x.valueKind(o, i), NONE));
         CHECKS.sentence("promise 14: 0 a number, 2 a link, 3 a byte, by the object's kind",
             () -> answersByKind((x, o) -> x.valueKind(o, 0), NONE, 0, 3, 0, 0, 2));
+        CHECKS.sentence("promise 14: 3 a byte, in every place of a text, whatever byte", () -> {
+            for (int b : new int[] {0, 1, 2, 3, 255}) {
+                ObjectFile x = textOf(b);
+                for (int i = 0; i < 6; i++) {
+                    due("valueKind(1, " + i + ") of six bytes " + b, x.valueKind(1, i), 3);
+                }
+            }
+        });
         CHECKS.sentence("promise 14: 0 a number, 1 a name, 2 a link, in every place of a list", () -> {
             for (int place = 0; place < 4; place++) {
                 for (int kind = 0; kind <= 2; kind++) {
@@ -359,6 +377,11 @@ public final class AskingTest {
             x.begin(4, 4);
             x.put(code(4, 3, 0), 3);
             due("links(3)", x.links(3), 0);
+            for (int b = 0; b <= 8; b++) {
+                for (int o = 1; o <= 8; o++) {
+                    due("links(" + o + "), six bytes " + b, textOf(b).links(o), 0);
+                }
+            }
         });
         CHECKS.sentence("promise 17: no longer those that were taken away", () -> {
             ObjectFile x = new ObjectFile();

@@ -418,6 +418,7 @@ public final class SettingTest {
             Samples.makeFull(x, 1, 4, 1);
             return x.put(code(1, 3, 1), o);
         }));
+        CHECKS.sentence("promise 10: by all links of all items and entries", SettingTest::sweepByAllLinks);
         CHECKS.sentence("promise 10: not by numbers, names or bytes", SettingTest::sweepNotByOthers);
         CHECKS.sentence("promise 10: and so on, through all eight", SettingTest::sweepAlongAll);
         CHECKS.sentence("promise 10: and so on, round in a circle", SettingTest::sweepCircles);
@@ -491,7 +492,48 @@ public final class SettingTest {
         }
     }
 
+    private static void sweepByAllLinks() {
+        for (int first = 2; first <= 8; first++) {
+            ObjectFile x = new ObjectFile();
+            for (int o = 2; o <= 8; o++) {
+                x.setNumber(o, o);
+            }
+            int other = first == 8 ? 2 : first + 1;
+            x.begin(1, 3);
+            for (int to : new int[] {first, other, other, first}) {
+                x.push(1, 2, to);
+            }
+            due("sweep() of a list with two links to each of two", x.sweep(), 5);
+            due("kind(" + first + ")", x.kind(first), 1);
+            due("kind(" + other + ")", x.kind(other), 1);
+        }
+        ObjectFile x = new ObjectFile();
+        for (int o = 2; o <= 8; o++) {
+            x.setNumber(o, o);
+        }
+        x.begin(1, 3);
+        for (int to = 2; to <= 5; to++) {
+            x.push(1, 2, to);
+        }
+        x.begin(5, 4);
+        for (int to = 6; to <= 8; to++) {
+            x.put(code(5, 31 - to, 1), to);
+        }
+        due("sweep() of a list of four and a table of three", x.sweep(), 0);
+    }
+
     private static void sweepNotByOthers() {
+        for (int b = 0; b <= 8; b++) {
+            ObjectFile text = new ObjectFile();
+            for (int o = 2; o <= 8; o++) {
+                text.setNumber(o, o);
+            }
+            text.begin(1, 2);
+            for (int n = 0; n < 6; n++) {
+                text.append(1, b);
+            }
+            due("sweep(), six bytes " + b, text.sweep(), 7);
+        }
         ObjectFile x = new ObjectFile();
         x.setNumber(1, 2);
         x.setNumber(2, 2);

@@ -36,14 +36,17 @@ public final class TermsTest {
         CHECKS.sentence("terms: the tests are made in order, BAD before FULL", TermsTest::badBeforeFull);
         CHECKS.sentence("terms: the tests are made in order, NONE before FULL", TermsTest::noneBeforeFull);
         for (Call call : refused()) {
-            CHECKS.sentence("terms: refused, so it changes nothing", () -> changesNothing(call));
+            CHECKS.sentence("terms: refused, so it changes nothing: " + call.name(), () -> changesNothing(call));
         }
         for (Call call : refusedAtFirst()) {
-            CHECKS.sentence("terms: refused at first, so it changes nothing", () -> changesNothingAtFirst(call));
+            CHECKS.sentence("terms: refused at first, so it changes nothing: " + call.name(),
+                () -> changesNothingAtFirst(call));
         }
         for (Call call : questions()) {
-            CHECKS.sentence("terms: a question, so it changes nothing", () -> changesNothing(call));
+            CHECKS.sentence("terms: a question, so it changes nothing: " + call.name(), () -> changesNothing(call));
         }
+        CHECKS.sentence("terms: a question, so it changes nothing: resolve in a circle",
+            TermsTest::circleChangesNothing);
         CHECKS.sentence("promise 1: a new object has nothing of others", TermsTest::objectsAreApart);
         CHECKS.sentence("what it is: 512 calls are answered", TermsTest::manyCalls);
         CHECKS.end();
@@ -404,6 +407,19 @@ public final class TermsTest {
         ObjectFile x = Samples.crowded();
         due(call.name(), call.made().applyAsInt(x), call.answer());
         CHECKS.same("the state after " + call.name(), Samples.allOf(x), Samples.allOf(Samples.crowded()));
+    }
+
+    private static ObjectFile crowdedWithCircle() {
+        ObjectFile x = Samples.crowded();
+        x.setLink(5, 6);
+        x.setLink(6, 5);
+        return x;
+    }
+
+    private static void circleChangesNothing() {
+        ObjectFile x = crowdedWithCircle();
+        due("resolve(5)", x.resolve(5), NONE);
+        CHECKS.same("the state", Samples.allOf(x), Samples.allOf(crowdedWithCircle()));
     }
 
     private static void changesNothingAtFirst(Call call) {
